@@ -67,12 +67,10 @@ public final class LaneSlices {
     private final Whole now = new Whole();
     private final Whole kept = new Whole();
     private boolean isKept;
-    private final Tape tape = new Tape();
     private final Shelf[] shelves = new Shelf[SHELVES];
     private final int[] refusals = new int[REFUSAL_KINDS];
-    private final Reader reader = new Reader(tape);
-    private final Walker walker = new Walker(now.variables);
-    private final Variables thought = new Variables();
+    private final Reader reader = new Reader();
+    private final Walker walker = new Walker();
     private final Variables earlier = new Variables();
     private final Slices spare = new Slices();
 
@@ -286,6 +284,7 @@ public final class LaneSlices {
         if (n < 1 || n > MOST_FED) {
             return refuse(BAD);
         }
+        Tape tape = reader.tape;
         if (tape.length + n > MOST_BYTES) {
             return refuse(FULL);
         }
@@ -296,14 +295,14 @@ public final class LaneSlices {
     }
 
     public int wipe() {
-        int had = tape.length;
-        tape.length = 0;
+        int had = reader.tape.length;
+        reader.tape.length = 0;
         return had;
     }
 
     public int text() {
         Program read = reader.read();
-        tape.length = 0;
+        reader.tape.length = 0;
         if (read == null) {
             return -10 - reader.fault;
         }
@@ -318,7 +317,8 @@ public final class LaneSlices {
         if (now.program == null) {
             return refuse(STATE);
         }
-        int taken = goThrough(now.variables, n);
+        int taken = think(n);
+        now.variables.copyOf(walker.variables);
         now.steps += taken;
         return taken;
     }
@@ -331,7 +331,7 @@ public final class LaneSlices {
             return refuse(STATE);
         }
         think(n);
-        return thought.slices(v).inLane(lane);
+        return walker.variables.slices(v).inLane(lane);
     }
 
     public int steps(int n) {
@@ -349,18 +349,18 @@ public final class LaneSlices {
             return 0L;
         }
         think(n);
-        return thought.differsFrom(now.variables);
+        return walker.variables.differsFrom(now.variables);
     }
 
     public int settles() {
         if (now.program == null) {
             return refuse(STATE);
         }
-        thought.copyOf(now.variables);
+        walker.variables.copyOf(now.variables);
         for (int n = 0; n <= MOST_GOES; n++) {
-            earlier.copyOf(thought);
-            goThrough(thought, 1);
-            if (thought.differsFrom(earlier) == 0L) {
+            earlier.copyOf(walker.variables);
+            walker.go(now, 1);
+            if (walker.variables.differsFrom(earlier) == 0L) {
                 return n;
             }
         }
@@ -374,12 +374,12 @@ public final class LaneSlices {
         if (now.program == null) {
             return refuse(STATE);
         }
-        thought.copyOf(now.variables);
+        walker.variables.copyOf(now.variables);
         for (int n = 0; n <= MOST_GOES; n++) {
-            if (thought.slices(v).inLane(lane) == x) {
+            if (walker.variables.slices(v).inLane(lane) == x) {
                 return n;
             }
-            goThrough(thought, 1);
+            walker.go(now, 1);
         }
         return NONE;
     }
@@ -388,10 +388,10 @@ public final class LaneSlices {
         if (now.program == null) {
             return refuse(STATE);
         }
-        thought.copyOf(now.variables);
+        walker.variables.copyOf(now.variables);
         for (int n = 1; n <= MOST_GOES; n++) {
-            goThrough(thought, 1);
-            if (thought.differsFrom(now.variables) == 0L) {
+            walker.go(now, 1);
+            if (walker.variables.differsFrom(now.variables) == 0L) {
                 return n;
             }
         }
@@ -504,7 +504,7 @@ public final class LaneSlices {
             case 1:
                 return now.masks.height;
             case 2:
-                return tape.length;
+                return reader.tape.length;
             case 3:
                 return now.program == null ? 0 : now.program.deeds;
             case 4:
@@ -607,16 +607,8 @@ public final class LaneSlices {
     }
 
     private int think(int n) {
-        thought.copyOf(now.variables);
-        return goThrough(thought, n);
-    }
-
-    private int goThrough(Variables on, int n) {
-        int taken = 0;
-        for (int i = 0; i < n && i < MOST_GOES; i++) {
-            taken += walker.go(now.program, on, now.edge, now.masks.common());
-        }
-        return taken;
+        walker.variables.copyOf(now.variables);
+        return walker.go(now, n);
     }
 
     /** A number in each lane, cut into bits: plane k is the set of lanes in which bit k is 1. */
@@ -767,8 +759,9 @@ public final class LaneSlices {
         }
 
         private void setTruth(long lanes) {
-            setAll(0);
-            planes[0] = lanes;
+            for (int k = 0; k < BITS; k++) {
+                planes[k] = k == 0 ? lanes : 0L;
+            }
         }
 
         void invert() {
@@ -918,10 +911,6 @@ public final class LaneSlices {
                 length++;
             }
         }
-
-        int sign(int place) {
-            return place >= 0 && place < length && place < MOST_BYTES ? bytes[place] : NONE;
-        }
     }
 
     /** A row of numbers of one sort, or none. */
@@ -1006,17 +995,13 @@ public final class LaneSlices {
 
     /** Reads a program, a sign at a time, never going back: so where it stops is the fault. */
     private static final class Reader {
-        private final Tape tape;
+        private final Tape tape = new Tape();
         private final int[] words = new int[MOST_BYTES];
         private int size;
         private int cost;
         private int place;
         private int deeds;
         private int fault;
-
-        Reader(Tape tape) {
-            this.tape = tape;
-        }
 
         Program read() {
             place = 0;
@@ -1030,7 +1015,8 @@ public final class LaneSlices {
         }
 
         private int sign() {
-            return fault == NONE ? tape.sign(place) : NONE;
+            boolean isThere = place >= 0 && place < tape.length && place < MOST_BYTES;
+            return isThere && fault == NONE ? tape.bytes[place] : NONE;
         }
 
         private void fail() {
@@ -1235,25 +1221,28 @@ public final class LaneSlices {
     private static final class Walker {
         private final Slices[] held = new Slices[MOST_HELD];
         private final Slices come = new Slices();
-        private Variables variables;
+        // Its own ones, so that what is gone through in thought alone touches nothing.
+        private final Variables variables = new Variables();
         private int edge;
         private int taken;
 
-        Walker(Variables variables) {
-            this.variables = variables;
+        Walker() {
             for (int i = 0; i < MOST_HELD; i++) {
                 held[i] = new Slices();
             }
         }
 
-        int go(Program program, Variables on, int atEdge, long mask) {
+        int go(Whole whole, int n) {
+            Program program = whole.program;
             if (program == null) {
                 return 0;
             }
-            variables = on;
-            edge = atEdge;
+            edge = whole.edge;
             taken = 0;
-            walk(program.start, mask, 0);
+            long mask = whole.masks.common();
+            for (int i = 0; i < n && i < MOST_GOES; i++) {
+                walk(program.start, mask, 0);
+            }
             return taken;
         }
 
@@ -1305,44 +1294,28 @@ public final class LaneSlices {
             int height = 0;
             for (int word : formula.words) {
                 int kind = word >> 8;
-                if (kind == INVERSE) {
-                    invertTop(height);
-                } else if (kind < PAIRED) {
-                    height = pairTop(kind, height);
-                } else {
-                    height = hold(kind, word & 255, height);
+                if (kind < PAIRED && height >= 2) {
+                    height--;
+                    held[height - 1].pair(kind, held[height]);
+                } else if (kind == INVERSE && height >= 1) {
+                    held[height - 1].invert();
+                } else if (height < MOST_HELD) {
+                    hold(held[height], kind, word & 255);
+                    height++;
                 }
             }
             taken += formula.cost;
             return held[0];
         }
 
-        private void invertTop(int height) {
-            if (height > 0 && height <= MOST_HELD) {
-                held[height - 1].invert();
-            }
-        }
-
-        private int pairTop(int kind, int height) {
-            if (height < 2 || height > MOST_HELD) {
-                return height;
-            }
-            held[height - 2].pair(kind, held[height - 1]);
-            return height - 1;
-        }
-
-        private int hold(int kind, int x, int height) {
-            if (height < 0 || height >= MOST_HELD) {
-                return height;
-            }
+        private void hold(Slices place, int kind, int x) {
             if (kind == NUMBER) {
-                held[height].setAll(x);
+                place.setAll(x);
             } else if (kind == VARIABLE) {
-                held[height].copyOf(variables.slices(x));
+                place.copyOf(variables.slices(x));
             } else {
-                held[height].setLaneNumbers();
+                place.setLaneNumbers();
             }
-            return height + 1;
         }
     }
 }

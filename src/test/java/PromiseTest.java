@@ -410,6 +410,10 @@ public final class PromiseTest {
         LaneSlices y = new LaneSlices();
         due("push", y.push(0, 0), 0);
         due("other", y.other(), 64);
+        for (int i = 1; i < 8; i++) {
+            due("push", y.push(0, 0), 0);
+            due("other of " + i, y.other(), 64);
+        }
     }
 
     private static void pop() {
@@ -471,6 +475,16 @@ public final class PromiseTest {
         y.put(0, 0, 254);
         due("first of the greatest", y.reduce(6, 0), 1);
         due("the least", y.reduce(2, 0), 254);
+        for (int k = 0; k < 8; k++) {
+            // A number with bit k alone is above one with all the bits below k.
+            y.fill(2, (1 << k) - 1);
+            y.put(50, 2, 1 << k);
+            due("the greatest", y.reduce(1, 2), 1 << k);
+            due("its first LANE", y.reduce(6, 2), 50);
+            y.fill(3, 1 << k);
+            y.put(49, 3, (1 << k) - 1);
+            due("the least", y.reduce(2, 3), (1 << k) - 1);
+        }
     }
 
     private static void part() {
@@ -748,6 +762,8 @@ public final class PromiseTest {
         good("[a:[b:[c:[d:e=1]]]]", 5);
         fault("[a:[b:[c:[d:[e:f=1]]]]]", 12);
         fault("[a:[b:[c:[d:{e:f=1}]]]]", 12);
+        fault("{a:{b:[c:[d:[e:f=1]]]}}", 12);
+        fault("[a:b=1|[c:d=1|[e:f=1|{g:h=1;[a:b=1]", 28);
         good("[a:{b:[c:{d:e=1}]}]", 5);
         good("{a:{b:[c:[d:e=1]]}}", 5);
         fault("{a:{b:{c:d=1}}}", 6);
@@ -779,11 +795,11 @@ public final class PromiseTest {
         good(longest + "2", 40);
         fault(longest + ";", 160);
         good("a=a" + "+a".repeat(78), 1);
-        String deep = "1<2+3*(1<2+3*(1<2+3*(1<2+3*(1<2+3*(1<2+3*4)))))";
-        good("a=" + deep, 1);
-        LaneSlices x = with("a=" + deep);
+        // Each level is 1 where the one within it is; at the deepest place 19 numbers wait.
+        LaneSlices x = with("a=1=2-1*(1=2-1*(1=2-1*(1=2-1*(1=2-1*(1=2-1*b)))))");
+        x.lay(1, 0, 0x123456789L);
         x.run(1);
-        due("a deep E", x.lane(0, 0), 1);
+        due("a deep E", x.plane(0, 0), 0x123456789L);
     }
 
     private static int valueOf(String formula) {
@@ -918,6 +934,22 @@ public final class PromiseTest {
         due("[ in [", inside.plane(3, 0), 0x2L);
         due("[ in [", inside.plane(4, 0), 0x4L);
         due("[ in [", inside.plane(5, 0), ~0x7L);
+        LaneSlices deep = with("[a:[b:[c:[d:e=1|f=1]|[d:g=1]]|[c:[d:h=1]]]|[b:e=8|e=9]]");
+        deep.lay(0, 0, 0xFFL);
+        deep.lay(1, 0, 0xF0FL);
+        deep.lay(2, 0, 0x33L);
+        deep.lay(3, 0, 0x55L);
+        deep.run(1);
+        due("four open", deep.plane(4, 0) & 0xFFL, 0x1L);
+        due("four open", deep.plane(5, 0), 0x2L);
+        due("four open", deep.plane(6, 0), 0x4L);
+        due("four open", deep.plane(7, 0), 0x10L);
+        due("Q", deep.plane(4, 3), ~0xFFL);
+        due("Q", deep.plane(4, 0) & ~0xFFL, ~0xFFFL);
+        LaneSlices loops = with("[1:[0:a=1|{b<3:{c<2:c=c+1;d=d+1};b=b+1;c=0}]]");
+        loops.run(1);
+        due("two { in two [", loops.lane(63, 3), 6);
+        only(inside, 0x9L);
         only(inside, 0x9L);
         inside.fill(2, 0);
         inside.fill(5, 0);
@@ -1047,6 +1079,11 @@ public final class PromiseTest {
         due("first", x.first(3, 0, 4), NONE);
         due("first", x.first(63, 0, 256 - 4), 4);
         due("nothing changes", x.lane(3, 0), 0);
+        x.then(5, 3, 0);
+        due("from how all is", x.first(3, 0, 3), 1);
+        x.run(2);
+        due("from how all is", x.first(3, 0, 9), 1);
+        due("from how all is", x.first(3, 0, 3), NONE);
         due("first", x.first(64, 0, 0), BAD);
         due("first", x.first(-1, 0, 0), BAD);
         due("first", x.first(0, 8, 0), BAD);
@@ -1187,10 +1224,12 @@ public final class PromiseTest {
 
     private static void store() {
         LaneSlices x = numbered();
+        x.put(0, 0, 17);
         x.put(2, 0, 200);
         x.row(0, 0, 3);
         x.row(1, 1, 64);
         due("store", x.store(0, 0), 3);
+        due("store", x.at(0, 0), 17L);
         due("store, a byte", x.at(0, 2), -56L);
         due("store", x.store(0, 1), 64);
         due("store, a short", x.at(1, 2), 200L);
@@ -1296,6 +1335,18 @@ public final class PromiseTest {
         due("back", y.back(), 0);
         due("no PROGRAM", y.count(3), 0);
         due("no PROGRAM", y.run(1), STATE);
+        LaneSlices z = numbered();
+        z.push(0, 0);
+        z.push(0, 1);
+        z.image();
+        z.pop();
+        z.other();
+        z.push(0, 5);
+        due("MASKS", z.active(), 0x5555555500000000L);
+        z.back();
+        due("MASKS", z.active(), 0x8888888888888888L);
+        z.pop();
+        due("MASKS", z.active(), 0xAAAAAAAAAAAAAAAAL);
     }
 
     private static void count() {
