@@ -1058,6 +1058,9 @@ public final class PromiseTest {
         due("never", with("a=a+1").settles(), NONE);
         LaneSlices x = with("[a<29:a=a+1]");
         due("29 times", x.settles(), 29);
+        due("from how all is", x.settles(), 29);
+        x.run(9);
+        due("from how all is", x.settles(), 20);
         LaneSlices y = with("[a<30:a=a+1]");
         due("30 times", y.settles(), 30);
         LaneSlices z = with("[a<31:a=a+1]");
@@ -1101,6 +1104,8 @@ public final class PromiseTest {
         due("never", with("a=a+1").again(), NONE);
         LaneSlices x = with("[a=29:a=0|a=a+1]");
         due("30 times", x.again(), 30);
+        x.then(7, 0, 0);
+        due("from how all is", x.again(), 30);
         LaneSlices y = with("[a=30:a=0|a=a+1]");
         due("31 times", y.again(), NONE);
         LaneSlices z = with("[a<3:a=a+1|a=1]");
