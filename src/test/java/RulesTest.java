@@ -147,12 +147,17 @@ public final class RulesTest {
         com.sun.management.ThreadMXBean bean =
             (com.sun.management.ThreadMXBean) java.lang.management.ManagementFactory.getThreadMXBean();
         LaneSlices x = new LaneSlices();
+        for (char sign : "{a<9:a=a+1;[a&1:b@na|c=~c*a]}".toCharArray()) {
+            x.feed(sign, 1);
+        }
+        checks.due("the program is read", x.text(), 5);
         long given = 0;
         for (int round = 0; round < 2; round++) {
             // The second round is counted: by then all classes have been loaded.
             long before = bean.getCurrentThreadAllocatedBytes();
             for (int i = 0; i < 100; i++) {
                 x.feed(0x233D61L, 3);
+                x.run(1);
                 x.settles();
                 x.again();
                 x.first(0, 0, 1);
