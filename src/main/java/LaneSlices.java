@@ -264,16 +264,14 @@ public final class LaneSlices {
         if (!isLane(from) || !isLane(to) || !isVariable(v)) {
             return refuse(BAD);
         }
-        if (from == to) {
-            return 0;
-        }
         long open = now.variables.slices(v).notZero();
+        // Both ends must be open, so a lane with a 0 has not even a way to itself.
         long reached = (1L << from) & open;
-        for (int moves = 1; moves < LANES; moves++) {
-            reached = spread(reached, open);
+        for (int moves = 0; moves < LANES; moves++) {
             if ((reached >>> to & 1L) == 1L) {
                 return moves;
             }
+            reached = spread(reached, open);
         }
         return NONE;
     }

@@ -325,11 +325,11 @@ final class PlainModel {
         if (!isLane(from) || !isLane(to) || !isVar(v)) {
             return refuse(BAD);
         }
-        if (from == to) {
-            return 0;
-        }
         if (x[from][v] == 0) {
             return NONE;
+        }
+        if (from == to) {
+            return 0;
         }
         int[] far = new int[64];
         List<Integer> queue = new ArrayList<>();

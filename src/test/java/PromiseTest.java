@@ -601,7 +601,13 @@ public final class PromiseTest {
     private static void way() {
         LaneSlices x = new LaneSlices();
         due("way without a number", x.way(0, 1, 0), NONE);
-        due("way to itself", x.way(7, 7, 0), 0);
+        for (int lane = 0; lane < 64; lane++) {
+            due("no way to itself where the number is 0", x.way(lane, lane, 0), NONE);
+            x.put(lane, 0, 1 << lane % 8);
+            due("way to itself", x.way(lane, lane, 0), 0);
+            due("by another VARIABLE", x.way(lane, lane, 1), NONE);
+            x.put(lane, 0, 0);
+        }
         x.fill(0, 128);
         due("way", x.way(0, 63, 0), 14);
         due("way", x.way(63, 0, 0), 14);
@@ -613,12 +619,20 @@ public final class PromiseTest {
         x.put(63, 0, 0);
         due("no end", x.way(0, 63, 0), NONE);
         due("no beginning", x.way(63, 0, 0), NONE);
+        due("neither", x.way(63, 63, 0), NONE);
+        x.edge(1);
+        due("no end around", x.way(0, 63, 0), NONE);
+        due("no beginning around", x.way(63, 0, 0), NONE);
+        due("neither around", x.way(63, 63, 0), NONE);
+        x.edge(0);
         x.lay(1, 0, 0xFF01FF80FF01FFL | 0x80L << 56);
         due("a long way", x.way(7, 63, 1), 35);
         x.lay(1, 0, 0xFF01FF80FF01FFL & ~(1L << 31) | 0x80L << 56);
         due("a wall", x.way(7, 63, 1), NONE);
         x.push(5, 0);
         due("MASKS don't matter", x.way(0, 1, 0), 1);
+        due("MASKS don't matter", x.way(0, 0, 0), 0);
+        due("no REFUSAL", x.refused(0), 0);
         for (int bad : NO_LANES) {
             due("way", x.way(bad, 0, 0), BAD);
             due("way", x.way(0, bad, 0), BAD);

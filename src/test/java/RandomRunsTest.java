@@ -255,7 +255,7 @@ public final class RandomRunsTest {
     private void together() {
         int v = variable();
         int lane = lane();
-        int to = lane();
+        int to = random.nextInt(4) == 0 ? lane : lane();
         switch (random.nextInt(7)) {
             case 0: {
                 int what = pick(6);
