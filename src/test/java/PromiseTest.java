@@ -71,56 +71,16 @@ public final class PromiseTest {
 
     // ---- helpers
 
-    private static int feedAll(LaneSlices x, String text) {
-        int length = x.count(2);
-        for (int i = 0; i < text.length(); i += 8) {
-            int n = Math.min(8, text.length() - i);
-            long bytes = 0L;
-            for (int j = 0; j < n; j++) {
-                bytes |= (text.charAt(i + j) & 255L) << (8 * j);
-            }
-            length = x.feed(bytes, n);
-        }
-        return length;
-    }
-
-    private static int read(LaneSlices x, String text) {
-        feedAll(x, text);
-        return x.text();
-    }
-
-    private static LaneSlices with(String text) {
-        LaneSlices x = new LaneSlices();
-        int deeds = read(x, text);
-        checks.holds(text + " is a program", deeds > 0);
-        return x;
-    }
-
-    /** Variable a is the lane's number. */
-    private static LaneSlices numbered() {
-        LaneSlices x = new LaneSlices();
-        for (int lane = 0; lane < 64; lane++) {
-            x.put(lane, 0, lane);
-        }
-        return x;
-    }
-
-    /** Variable h, which is filled with the bits of a set of lanes, is pushed: those lanes are active. */
-    private static void only(LaneSlices x, long set) {
-        x.lay(7, 0, set);
-        x.push(7, 0);
-    }
-
     private static void fault(String text, int place) {
         LaneSlices x = new LaneSlices();
-        due("text() of " + text, read(x, text), -10 - place);
+        due("text() of " + text, Make.read(x, text), -10 - place);
         due("no PROGRAM behind " + text, x.count(3), 0);
         due("no REFUSAL behind " + text, x.refused(0) + x.refused(1) + x.refused(2) + x.refused(3) + x.refused(4), 0);
     }
 
     private static void good(String text, int deeds) {
         LaneSlices x = new LaneSlices();
-        due("text() of " + text, read(x, text), deeds);
+        due("text() of " + text, Make.read(x, text), deeds);
         due("S of " + text, x.count(3), deeds);
     }
 
@@ -147,7 +107,7 @@ public final class PromiseTest {
     }
 
     private static void lane() {
-        LaneSlices x = numbered();
+        LaneSlices x = Make.numbered();
         for (int lane = 0; lane < 64; lane++) {
             due("lane " + lane, x.lane(lane, 0), lane);
             due("lane " + lane, x.lane(lane, 1), 0);
@@ -186,7 +146,7 @@ public final class PromiseTest {
     }
 
     private static void plane() {
-        LaneSlices x = numbered();
+        LaneSlices x = Make.numbered();
         long[] planes = {0xAAAAAAAAAAAAAAAAL, 0xCCCCCCCCCCCCCCCCL, 0xF0F0F0F0F0F0F0F0L, 0xFF00FF00FF00FF00L,
             0xFFFF0000FFFF0000L, 0xFFFFFFFF00000000L, 0L, 0L};
         for (int k = 0; k < 8; k++) {
@@ -230,7 +190,7 @@ public final class PromiseTest {
         due("fill", x.fill(4, 0x5A), 8);
         due("fill", x.reduce(2, 4), 0x5A);
         due("fill", x.reduce(1, 4), 0x5A);
-        only(x, 0x0FL);
+        Make.only(x, 0x0FL);
         due("fill, masked", x.fill(4, 3), 8);
         due("fill, masked", x.lane(3, 4), 3);
         due("fill, masked", x.lane(4, 4), 0x5A);
@@ -254,7 +214,7 @@ public final class PromiseTest {
 
     private static void does() {
         int[] steps = {16, 16, 136, 8, 9, 9, 17, 17};
-        LaneSlices x = numbered();
+        LaneSlices x = Make.numbered();
         int taken = 0;
         for (int op = 0; op < 8; op++) {
             x.lay(1, 6, 0xFFFF00000000FFFFL);
@@ -311,7 +271,7 @@ public final class PromiseTest {
             }
         }
         for (int op = 0; op < 8; op++) {
-            LaneSlices x = numbered();
+            LaneSlices x = Make.numbered();
             x.does(0, 1, 0, 0);
             x.does(op, 0, 0, 1);
             x.does(op, 1, 0, 1);
@@ -347,8 +307,8 @@ public final class PromiseTest {
                 }
             }
         }
-        LaneSlices x = numbered();
-        only(x, 1L << 9);
+        LaneSlices x = Make.numbered();
+        Make.only(x, 1L << 9);
         x.route(1, 0, 0);
         due("from a LANE that isn't active", x.lane(9, 1), 1);
         due("route, not active", x.lane(10, 1), 0);
@@ -376,7 +336,7 @@ public final class PromiseTest {
     }
 
     private static void push() {
-        LaneSlices x = numbered();
+        LaneSlices x = Make.numbered();
         due("push", x.push(0, 5), 32);
         due("push", x.push(0, 0), 16);
         x.put(33, 0, 0);
@@ -396,7 +356,7 @@ public final class PromiseTest {
     }
 
     private static void other() {
-        LaneSlices x = numbered();
+        LaneSlices x = Make.numbered();
         due("other", x.other(), STATE);
         x.push(0, 5);
         x.push(0, 0);
@@ -417,7 +377,7 @@ public final class PromiseTest {
     }
 
     private static void pop() {
-        LaneSlices x = numbered();
+        LaneSlices x = Make.numbered();
         due("pop", x.pop(), STATE);
         x.push(0, 5);
         x.push(0, 0);
@@ -431,7 +391,7 @@ public final class PromiseTest {
     }
 
     private static void active() {
-        LaneSlices x = numbered();
+        LaneSlices x = Make.numbered();
         due("active", x.active(), -1L);
         x.push(0, 3);
         due("active", x.active(), 0xFF00FF00FF00FF00L);
@@ -444,7 +404,7 @@ public final class PromiseTest {
     }
 
     private static void reduce() {
-        LaneSlices x = numbered();
+        LaneSlices x = Make.numbered();
         x.put(20, 0, 255);
         x.put(40, 0, 255);
         int[] want = {2016 - 60 + 510, 255, 0, 255, 0, 63, 20};
@@ -488,7 +448,7 @@ public final class PromiseTest {
     }
 
     private static void part() {
-        LaneSlices x = numbered();
+        LaneSlices x = Make.numbered();
         for (int level = 0; level < 7; level++) {
             int size = 1 << level;
             for (int i = 0; i < 64 >> level; i++) {
@@ -514,7 +474,7 @@ public final class PromiseTest {
     }
 
     private static void rank() {
-        LaneSlices x = numbered();
+        LaneSlices x = Make.numbered();
         x.put(63, 0, 10);
         due("rank", x.rank(0, 0), 0);
         due("rank", x.rank(10, 0), 10);
@@ -592,7 +552,7 @@ public final class PromiseTest {
         x.edge(1);
         due("regions around", x.regions(1), 2);
         due("a chequered square", x.regions(0), 64);
-        LaneSlices y = numbered();
+        LaneSlices y = Make.numbered();
         due("all different", y.regions(0), 64);
         due("regions", y.regions(8), BAD);
         due("regions", y.regions(-1), BAD);
@@ -667,14 +627,14 @@ public final class PromiseTest {
     }
 
     private static void wipe() {
-        LaneSlices x = with("a=1");
+        LaneSlices x = Make.with("a=1");
         due("wipe", x.wipe(), 0);
-        feedAll(x, "b=23;");
+        Make.feedAll(x, "b=23;");
         due("wipe", x.wipe(), 5);
         due("wipe", x.wipe(), 0);
         due("bytes", x.count(2), 0);
         due("the PROGRAM stays", x.count(3), 1);
-        due("what was wiped is gone", read(x, "c=1"), 1);
+        due("what was wiped is gone", Make.read(x, "c=1"), 1);
     }
 
     private static void text() {
@@ -689,13 +649,13 @@ public final class PromiseTest {
         good("a=(b=c)=(d<e)", 1);
         good("h=~~a+~(b&c)*#-007", 1);
         good("[a=b:[c<d:e=f|g=h]|{h:a@wh}]", 6);
-        LaneSlices x = with("a=7;b=8");
-        feedAll(x, "c=");
+        LaneSlices x = Make.with("a=7;b=8");
+        Make.feedAll(x, "c=");
         due("a FAULT", x.text(), -12);
         due("THE TAPE is empty then", x.count(2), 0);
         due("the one ahead stays", x.count(3), 2);
         due("the one ahead stays", x.then(1, 0, 1), 8);
-        due("another", read(x, "a=9"), 1);
+        due("another", Make.read(x, "a=9"), 1);
         due("THE TAPE is empty then", x.count(2), 0);
         due("in place of one ahead", x.then(1, 0, 0), 9);
         due("in place of one ahead", x.then(1, 0, 1), 0);
@@ -810,14 +770,14 @@ public final class PromiseTest {
         fault(longest + ";", 160);
         good("a=a" + "+a".repeat(78), 1);
         // Each level is 1 where the one within it is; at the deepest place 19 numbers wait.
-        LaneSlices x = with("a=1=2-1*(1=2-1*(1=2-1*(1=2-1*(1=2-1*(1=2-1*b)))))");
+        LaneSlices x = Make.with("a=1=2-1*(1=2-1*(1=2-1*(1=2-1*(1=2-1*(1=2-1*b)))))");
         x.lay(1, 0, 0x123456789L);
         x.run(1);
         due("a deep E", x.plane(0, 0), 0x123456789L);
     }
 
     private static int valueOf(String formula) {
-        LaneSlices x = with("h=" + formula);
+        LaneSlices x = Make.with("h=" + formula);
         for (int v = 0; v < 7; v++) {
             x.put(37, v, v * 30 + 5);
         }
@@ -825,7 +785,7 @@ public final class PromiseTest {
     }
 
     private static void run() {
-        LaneSlices x = with("a=#;b=a*a");
+        LaneSlices x = Make.with("a=#;b=a*a");
         due("run", x.run(1), 14 + 144);
         due("run", x.lane(20, 1), 400 & 255);
         due("run", x.run(30), 30 * 158);
@@ -839,8 +799,8 @@ public final class PromiseTest {
         LaneSlices y = new LaneSlices();
         due("run without a PROGRAM", y.run(1), STATE);
         due("BAD ahead of STATE", y.run(0), BAD);
-        LaneSlices z = with("a=a+1");
-        only(z, 0x3L);
+        LaneSlices z = Make.with("a=a+1");
+        Make.only(z, 0x3L);
         due("run, masked", z.run(3), 3 * 32);
         due("run, masked", z.lane(1, 0), 3);
         due("run, masked", z.lane(2, 0), 0);
@@ -875,27 +835,27 @@ public final class PromiseTest {
         due("modulo 256", valueOf("200+100"), 44);
         due("modulo 256", valueOf("200*200"), 64);
         due("E in ( )", valueOf("(1<2)+(2=2)+(3<2)"), 2);
-        due("STEPS of a number", with("a=1").steps(1), 16);
-        due("STEPS of a VARIABLE", with("a=b").steps(1), 8);
-        due("STEPS of #", with("a=#").steps(1), 14);
-        due("STEPS of ~", with("a=~b").steps(1), 16);
-        due("STEPS of ~~", with("a=~~b").steps(1), 24);
-        due("STEPS of +", with("a=b+c").steps(1), 24);
-        due("STEPS of -", with("a=b-c").steps(1), 24);
-        due("STEPS of *", with("a=b*c").steps(1), 144);
-        due("STEPS of &", with("a=b&c").steps(1), 16);
-        due("STEPS of <", with("a=b<c").steps(1), 17);
-        due("STEPS of =", with("a=b=c").steps(1), 17);
-        due("STEPS of ( )", with("a=((b))").steps(1), 8);
-        due("STEPS of @", with("a@nb").steps(1), 8);
-        LaneSlices x = with("a=a+1;b=a;c@wa");
+        due("STEPS of a number", Make.with("a=1").steps(1), 16);
+        due("STEPS of a VARIABLE", Make.with("a=b").steps(1), 8);
+        due("STEPS of #", Make.with("a=#").steps(1), 14);
+        due("STEPS of ~", Make.with("a=~b").steps(1), 16);
+        due("STEPS of ~~", Make.with("a=~~b").steps(1), 24);
+        due("STEPS of +", Make.with("a=b+c").steps(1), 24);
+        due("STEPS of -", Make.with("a=b-c").steps(1), 24);
+        due("STEPS of *", Make.with("a=b*c").steps(1), 144);
+        due("STEPS of &", Make.with("a=b&c").steps(1), 16);
+        due("STEPS of <", Make.with("a=b<c").steps(1), 17);
+        due("STEPS of =", Make.with("a=b=c").steps(1), 17);
+        due("STEPS of ( )", Make.with("a=((b))").steps(1), 8);
+        due("STEPS of @", Make.with("a@nb").steps(1), 8);
+        LaneSlices x = Make.with("a=a+1;b=a;c@wa");
         x.edge(1);
         x.put(8, 0, 5);
         x.run(1);
         due("as all stands", x.lane(8, 1), 6);
         due("EDGE of @", x.lane(8, 2), 1);
         due("@ w", x.lane(9, 2), 6);
-        LaneSlices y = with("a@na;b@ec;c@sc;d@wd");
+        LaneSlices y = Make.with("a@na;b@ec;c@sc;d@wd");
         for (int lane = 0; lane < 64; lane++) {
             y.put(lane, 0, lane);
             y.put(lane, 2, lane);
@@ -910,37 +870,37 @@ public final class PromiseTest {
         due("@ s beyond", y.lane(60, 2), 0);
         due("@ w", y.lane(20, 3), 19);
         due("@ w beyond", y.lane(16, 3), 0);
-        LaneSlices z = with("a@wb");
+        LaneSlices z = Make.with("a@wb");
         z.fill(1, 9);
-        only(z, 2L);
+        Make.only(z, 2L);
         z.run(1);
         due("from a LANE that isn't active", z.lane(1, 0), 9);
         due("not active", z.lane(2, 0), 0);
     }
 
     private static void runChoices() {
-        LaneSlices x = with("[#<8:a=1;b=2|a=3]");
+        LaneSlices x = Make.with("[#<8:a=1;b=2|a=3]");
         // # 6, 8: 8, <: 9, [ ]: 2; a=1: 16, b=2: 16; a=3: 16
         due("STEPS of [ | ]", x.run(1), 25 + 32 + 16);
         due("P", x.lane(7, 0), 1);
         due("P", x.lane(7, 1), 2);
         due("Q", x.lane(8, 0), 3);
         due("Q", x.lane(8, 1), 0);
-        LaneSlices y = with("[a:a=0;b=1|a=9;b=2]");
+        LaneSlices y = Make.with("[a:a=0;b=1|a=9;b=2]");
         y.put(3, 0, 200);
         y.run(1);
         due("Q by the others, as E was ahead", y.lane(3, 0), 0);
         due("Q by the others, as E was ahead", y.lane(3, 1), 1);
         due("Q by the others, as E was ahead", y.lane(4, 0), 9);
-        LaneSlices p = with("[a:b=1|c=1]");
+        LaneSlices p = Make.with("[a:b=1|c=1]");
         due("P left out", p.steps(1), 2 + 16);
         p.fill(0, 2);
         due("Q left out", p.steps(1), 2 + 16);
         p.put(0, 0, 0);
         due("both", p.steps(1), 2 + 32);
-        LaneSlices q = with("[a:b=1]");
+        LaneSlices q = Make.with("[a:b=1]");
         due("P left out, no Q", q.steps(1), 2);
-        LaneSlices inside = with("[a:[b:c=1|d=1]|[b:e=1|f=1]]");
+        LaneSlices inside = Make.with("[a:[b:c=1|d=1]|[b:e=1|f=1]]");
         inside.lay(0, 0, 0x3L);
         inside.lay(1, 0, 0x5L);
         inside.run(1);
@@ -948,7 +908,7 @@ public final class PromiseTest {
         due("[ in [", inside.plane(3, 0), 0x2L);
         due("[ in [", inside.plane(4, 0), 0x4L);
         due("[ in [", inside.plane(5, 0), ~0x7L);
-        LaneSlices deep = with("[a:[b:[c:[d:e=1|f=1]|[d:g=1]]|[c:[d:h=1]]]|[b:e=8|e=9]]");
+        LaneSlices deep = Make.with("[a:[b:[c:[d:e=1|f=1]|[d:g=1]]|[c:[d:h=1]]]|[b:e=8|e=9]]");
         deep.lay(0, 0, 0xFFL);
         deep.lay(1, 0, 0xF0FL);
         deep.lay(2, 0, 0x33L);
@@ -960,11 +920,11 @@ public final class PromiseTest {
         due("four open", deep.plane(7, 0), 0x10L);
         due("Q", deep.plane(4, 3), ~0xFFL);
         due("Q", deep.plane(4, 0) & ~0xFFL, ~0xFFFL);
-        LaneSlices loops = with("[1:[0:a=1|{b<3:{c<2:c=c+1;d=d+1};b=b+1;c=0}]]");
+        LaneSlices loops = Make.with("[1:[0:a=1|{b<3:{c<2:c=c+1;d=d+1};b=b+1;c=0}]]");
         loops.run(1);
         due("two { in two [", loops.lane(63, 3), 6);
-        only(inside, 0x9L);
-        only(inside, 0x9L);
+        Make.only(inside, 0x9L);
+        Make.only(inside, 0x9L);
         inside.fill(2, 0);
         inside.fill(5, 0);
         inside.run(1);
@@ -973,7 +933,7 @@ public final class PromiseTest {
     }
 
     private static void runLoops() {
-        LaneSlices x = with("{a:a=a-1;b=b+1}");
+        LaneSlices x = Make.with("{a:a=a-1;b=b+1}");
         x.put(0, 0, 3);
         x.put(1, 0, 5);
         // E 6 times: 1 each; P 5 times: 32 and 32
@@ -981,7 +941,7 @@ public final class PromiseTest {
         due("{ }", x.lane(0, 1), 3);
         due("{ }", x.lane(1, 1), 5);
         due("{ }", x.lane(2, 1), 0);
-        LaneSlices y = with("{a:a=a-1;b=b+1}");
+        LaneSlices y = Make.with("{a:a=a-1;b=b+1}");
         y.put(0, 0, 20);
         due("20 times", y.steps(1), 20 + 20 * 64);
         y.put(0, 0, 19);
@@ -990,21 +950,21 @@ public final class PromiseTest {
         due("20 times", y.run(1), 20 + 20 * 64);
         due("20 times", y.lane(0, 0), 1);
         due("20 times", y.lane(0, 1), 20);
-        LaneSlices z = with("{a:a=0;b=b+1;c@wb;[c:a=1]}");
+        LaneSlices z = Make.with("{a:a=0;b=b+1;c@wb;[c:a=1]}");
         z.put(4, 0, 1);
         z.put(5, 0, 0);
         z.run(1);
         due("out of it for good", z.lane(5, 1), 0);
         due("out of it for good", z.lane(4, 1), 1);
-        LaneSlices out = with("{(#<2)=b:c=c+1;[#=0:b=1|b=2]}");
+        LaneSlices out = Make.with("{(#<2)=b:c=c+1;[#=0:b=1|b=2]}");
         // lanes 0 and 1 have # < 2, so 1; b is 0: only the others begin
         out.run(1);
         due("{ } by the others", out.lane(0, 2), 0);
         due("{ } by the others", out.lane(9, 2), 1);
-        LaneSlices never = with("{0:a=1}");
+        LaneSlices never = Make.with("{0:a=1}");
         due("P left out", never.run(1), 9);
         due("P left out", never.lane(0, 0), 0);
-        LaneSlices ever = with("{1:a=a+1;{1:b=b+1}}");
+        LaneSlices ever = Make.with("{1:a=a+1;{1:b=b+1}}");
         // outer: 20 times 9; a=a+1: 32; inner: 20 times 9 and 32
         due("{ in {", ever.run(1), 20 * (9 + 32 + 20 * (9 + 32)));
         due("{ in {", ever.lane(63, 0), 20);
@@ -1012,7 +972,7 @@ public final class PromiseTest {
     }
 
     private static void then() {
-        LaneSlices x = with("a=a+#");
+        LaneSlices x = Make.with("a=a+#");
         due("then", x.then(0, 9, 0), 0);
         due("then", x.then(1, 9, 0), 9);
         due("then", x.then(30, 9, 0), 270 & 255);
@@ -1024,7 +984,7 @@ public final class PromiseTest {
         due("then", x.then(0, -1, 0), BAD);
         due("then", x.then(0, 0, 8), BAD);
         due("then", x.then(0, 0, -1), BAD);
-        only(x, 1L);
+        Make.only(x, 1L);
         due("then, masked", x.then(2, 9, 0), 0);
         LaneSlices y = new LaneSlices();
         due("then without a PROGRAM", y.then(0, 0, 0), STATE);
@@ -1033,7 +993,7 @@ public final class PromiseTest {
     }
 
     private static void steps() {
-        LaneSlices x = with("[a:b=1];a=1");
+        LaneSlices x = Make.with("[a:b=1];a=1");
         due("steps", x.steps(0), 0);
         due("steps", x.steps(1), 18);
         due("steps", x.steps(2), 18 + 34);
@@ -1050,7 +1010,7 @@ public final class PromiseTest {
     }
 
     private static void changed() {
-        LaneSlices x = with("a=1-a;[#=5:h=h+1]");
+        LaneSlices x = Make.with("a=1-a;[#=5:h=h+1]");
         due("changed", x.changed(0), 0L);
         due("changed", x.changed(1), -1L);
         due("changed and back", x.changed(2), 1L << 5);
@@ -1058,7 +1018,7 @@ public final class PromiseTest {
         due("changed", x.changed(-1), 0L);
         due("changed refuses nothing", x.refused(0), 0);
         due("nothing changes", x.lane(5, 7), 0);
-        only(x, 0xF0L);
+        Make.only(x, 0xF0L);
         due("changed, masked", x.changed(1), 0xF0L);
         due("changed without a PROGRAM", new LaneSlices().changed(1), 0L);
         LaneSlices y = new LaneSlices();
@@ -1067,20 +1027,20 @@ public final class PromiseTest {
     }
 
     private static void settles() {
-        due("settles at once", with("a=a").settles(), 0);
-        due("settles", with("a=5").settles(), 1);
-        due("never", with("a=a+1").settles(), NONE);
-        LaneSlices x = with("[a<29:a=a+1]");
+        due("settles at once", Make.with("a=a").settles(), 0);
+        due("settles", Make.with("a=5").settles(), 1);
+        due("never", Make.with("a=a+1").settles(), NONE);
+        LaneSlices x = Make.with("[a<29:a=a+1]");
         due("29 times", x.settles(), 29);
         due("from how all is", x.settles(), 29);
         x.run(9);
         due("from how all is", x.settles(), 20);
-        LaneSlices y = with("[a<30:a=a+1]");
+        LaneSlices y = Make.with("[a<30:a=a+1]");
         due("30 times", y.settles(), 30);
-        LaneSlices z = with("[a<31:a=a+1]");
+        LaneSlices z = Make.with("[a<31:a=a+1]");
         due("31 times", z.settles(), NONE);
         due("nothing changes", z.lane(0, 0), 0);
-        LaneSlices one = with("[#=63:[h<7:h=h+1]]");
+        LaneSlices one = Make.with("[#=63:[h<7:h=h+1]]");
         due("one LANE", one.settles(), 7);
         one.push(7, 0);
         due("without lanes", one.settles(), 0);
@@ -1088,7 +1048,7 @@ public final class PromiseTest {
     }
 
     private static void first() {
-        LaneSlices x = with("a=a+#");
+        LaneSlices x = Make.with("a=a+#");
         due("first", x.first(3, 0, 0), 0);
         due("first", x.first(3, 0, 3), 1);
         due("first", x.first(3, 0, 90), 30);
@@ -1113,20 +1073,20 @@ public final class PromiseTest {
     }
 
     private static void again() {
-        due("again at once", with("a=a").again(), 1);
-        due("again", with("a=1-a").again(), 2);
-        due("never", with("a=a+1").again(), NONE);
-        LaneSlices x = with("[a=29:a=0|a=a+1]");
+        due("again at once", Make.with("a=a").again(), 1);
+        due("again", Make.with("a=1-a").again(), 2);
+        due("never", Make.with("a=a+1").again(), NONE);
+        LaneSlices x = Make.with("[a=29:a=0|a=a+1]");
         due("30 times", x.again(), 30);
         x.then(7, 0, 0);
         due("from how all is", x.again(), 30);
-        LaneSlices y = with("[a=30:a=0|a=a+1]");
+        LaneSlices y = Make.with("[a=30:a=0|a=a+1]");
         due("31 times", y.again(), NONE);
-        LaneSlices z = with("[a<3:a=a+1|a=1]");
+        LaneSlices z = Make.with("[a<3:a=a+1|a=1]");
         due("never as now", z.again(), NONE);
         z.run(1);
         due("as now", z.again(), 3);
-        LaneSlices all = with("a=1-a;h=h+128;[#=9:b=b+64]");
+        LaneSlices all = Make.with("a=1-a;h=h+128;[#=9:b=b+64]");
         due("all VARIABLES", all.again(), 4);
         due("nothing changes", all.lane(9, 1), 0);
         due("again without a PROGRAM", new LaneSlices().again(), STATE);
@@ -1220,7 +1180,7 @@ public final class PromiseTest {
         due("the lowest 8 bits", x.lane(9, 0), 3);
         due("LANES beyond stay", x.lane(10, 0), 7);
         x.fill(0, 7);
-        only(x, 0xF03L);
+        Make.only(x, 0xF03L);
         due("load, masked", x.load(0, 2), 4);
         due("load, masked", x.lane(1, 0), 251);
         due("load, masked", x.lane(2, 0), 7);
@@ -1242,7 +1202,7 @@ public final class PromiseTest {
     }
 
     private static void store() {
-        LaneSlices x = numbered();
+        LaneSlices x = Make.numbered();
         x.put(0, 0, 17);
         x.put(2, 0, 200);
         x.row(0, 0, 3);
@@ -1268,7 +1228,7 @@ public final class PromiseTest {
     }
 
     private static void judge() {
-        LaneSlices x = numbered();
+        LaneSlices x = Make.numbered();
         x.put(40, 0, 200);
         x.row(0, 0, 64);
         x.row(1, 1, 64);
@@ -1299,7 +1259,7 @@ public final class PromiseTest {
     }
 
     private static void image() {
-        LaneSlices x = with("a=a+1");
+        LaneSlices x = Make.with("a=a+1");
         due("image", x.image(), 0);
         x.run(2);
         due("image", x.image(), 64);
@@ -1311,13 +1271,13 @@ public final class PromiseTest {
     }
 
     private static void back() {
-        LaneSlices x = with("a=a+1");
+        LaneSlices x = Make.with("a=a+1");
         x.push(0, 0);
         x.other();
         x.run(1);
         x.edge(1);
         x.row(0, 2, 4);
-        feedAll(x, "xyz");
+        Make.feedAll(x, "xyz");
         due("image", x.image(), 32);
         x.put(3, 7, 9);
         x.pop();
@@ -1328,8 +1288,8 @@ public final class PromiseTest {
         x.row(0, 2, 5);
         x.row(1, 2, 5);
         x.wipe();
-        read(x, "b=1;c=2");
-        feedAll(x, "uv");
+        Make.read(x, "b=1;c=2");
+        Make.feedAll(x, "uv");
         x.lane(64, 0);
         due("back", x.back(), 32);
         due("VARIABLES", x.lane(3, 7), 0);
@@ -1350,11 +1310,11 @@ public final class PromiseTest {
         LaneSlices y = new LaneSlices();
         due("back", y.back(), STATE);
         y.image();
-        read(y, "a=1");
+        Make.read(y, "a=1");
         due("back", y.back(), 0);
         due("no PROGRAM", y.count(3), 0);
         due("no PROGRAM", y.run(1), STATE);
-        LaneSlices z = numbered();
+        LaneSlices z = Make.numbered();
         z.push(0, 0);
         z.push(0, 1);
         z.image();
@@ -1369,7 +1329,7 @@ public final class PromiseTest {
     }
 
     private static void count() {
-        LaneSlices x = with("a=1;[a:b=2]");
+        LaneSlices x = Make.with("a=1;[a:b=2]");
         x.fill(0, 1);
         x.does(2, 1, 0, 0);
         x.route(1, 0, 0);
@@ -1420,7 +1380,7 @@ public final class PromiseTest {
     }
 
     private static void refusalsChangeNothing() {
-        LaneSlices x = with("a=a+1");
+        LaneSlices x = Make.with("a=a+1");
         for (int lane = 0; lane < 64; lane++) {
             x.put(lane, 2, lane);
         }
